@@ -23,8 +23,8 @@ public final class ChoirWires {
     private static final int SHEETS = 4, ITEMS = 40, BYTES = 0, SHORTS = 1, INTS = 2, NOTHING = -1;
 
     private final Choir now = new Choir();
-    private final Choir[] images = {new Choir(), new Choir()};
-    private final boolean[] kept = new boolean[IMAGES];
+    /** Made when they are first kept: most objects never keep one, and it is the dearest thing here. */
+    private final Choir[] images = new Choir[IMAGES];
     private final Tape tape = new Tape();
     private final Sheet[] sheets = {new Sheet(), new Sheet(), new Sheet(), new Sheet()};
     private final Beats beats = new Beats();
@@ -354,8 +354,10 @@ public final class ChoirWires {
         if (n < 0 || n >= IMAGES) {
             return BAD;
         }
+        if (images[n] == null) {
+            images[n] = new Choir();
+        }
         images[n].take(now);
-        kept[n] = true;
         return 1;
     }
 
@@ -364,7 +366,7 @@ public final class ChoirWires {
         if (n < 0 || n >= IMAGES) {
             return BAD;
         }
-        if (!kept[n]) {
+        if (images[n] == null) {
             return NONE;
         }
         now.take(images[n]);

@@ -36,6 +36,12 @@ public final class HoldTogetherTest {
         DUE.is("12 what 2", x.hold(0, 2), ChoirWires.BAD);
         DUE.is("12 what -1", x.hold(0, -1), ChoirWires.BAD);
         DUE.is("12 room 5", x.hold(5, 0), ChoirWires.BAD);
+        x.wire(2, 1, 8);
+        DUE.is("12 the first one's wire is not there", x.hold(1, 0), ChoirWires.NONE);
+        x.wire(0, 1, 50);
+        DUE.is("12 the first one's is the greatest", x.hold(1, 0), 50);
+        x.wire(0, 1, 3);
+        DUE.is("12 the first one costs", x.hold(1, 1), 5);
         DUE.is("12 room -1", x.hold(-1, 0), ChoirWires.BAD);
     }
 
@@ -83,6 +89,20 @@ public final class HoldTogetherTest {
         x.wire(0, 3, 10);
         DUE.is("13 the last two agree", x.together(24, 8), ChoirWires.NONE);
         DUE.is("13 but not with the first", x.together(28, 8), 3);
+
+        ChoirWires many = Choirs.meshed(20, 0, 0, 0, 0, 4, 4);
+        DUE.is("13 four agree", many.together(48, 8), ChoirWires.NONE);
+        for (int room = 0; room < 4; room++) {
+            many.wire(room, 5, 21);
+            DUE.is("13 all but room " + room, many.together(48, 8), 5);
+            many.wire(room, 4, 21);
+            DUE.is("13 with both ears later", many.together(48, room), 1);
+            many.wire(room, 4, 20);
+            many.wire(room, 5, 20);
+        }
+        many.wire(0, 4, 1);
+        DUE.is("13 the first one's is the shortest", many.together(16, 3), 19);
+        DUE.is("13 it is ahead of none", many.together(16, 0), 0);
     }
 
     private static void earsThatFail() {

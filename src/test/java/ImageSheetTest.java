@@ -96,6 +96,7 @@ public final class ImageSheetTest {
         DUE.is("31 a word that is lost", x.lose(4, 2, 1, true), 1);
         DUE.is("31 loss rows", x.count(5), 2);
         DUE.is("31 a loss row", x.lost(1, 12), 6);
+        DUE.is("31 a loss row that was written over", x.lost(0, 12), 5);
         DUE.is("31 most", x.most(2), 2);
         DUE.is("31 the next room is new", x.room(0), 3);
         DUE.is("31 its beat too", x.set(3, 5, 1), 0);

@@ -77,6 +77,9 @@ public final class LossNetTest {
         DUE.is("26 parted by 1 alone", x.group(), 1);
         x.loss(1L << 0 | 1L << 24);
         DUE.is("26 by none", x.group(), ChoirWires.NONE);
+        x.clear();
+        x.loss(1L << 0 | 1L << 8);
+        DUE.is("26 the first row counts", x.group(), 8);
     }
 
     private static void clear() {
@@ -139,6 +142,11 @@ public final class LossNetTest {
             Choirs.pair(x, 0, i, 10, 10);
         }
         DUE.is("29 a star", x.net(), 20);
+        Choirs.pair(x, 0, 3, 10, 90);
+        Choirs.pair(x, 0, 4, 90, 10);
+        DUE.is("29 two rays of it", x.net(), 180);
+        Choirs.pair(x, 0, 3, 10, 10);
+        Choirs.pair(x, 0, 4, 10, 10);
         x.most(5);
         DUE.is("29 five pairs do", x.net(), 20);
         x.most(4);

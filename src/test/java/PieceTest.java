@@ -27,6 +27,7 @@ public final class PieceTest {
         DUE.is("14 n 0", x.type('a', 0), ChoirWires.BAD);
         DUE.is("14 n 9", x.type('a', 9), ChoirWires.BAD);
         DUE.is("14 n -1", x.type('a', -1), ChoirWires.BAD);
+        DUE.is("14 n 9 of eight good ones", x.type(0x6161616161616161L, 9), ChoirWires.BAD);
         DUE.is("14 byte 31", x.type(31, 1), ChoirWires.BAD);
         DUE.is("14 byte 127", x.type(127, 1), ChoirWires.BAD);
         DUE.is("14 byte 255", x.type(-1, 1), ChoirWires.BAD);
@@ -64,6 +65,9 @@ public final class PieceTest {
         DUE.is("15 no breath of the other", x.count(4), 0);
         DUE.is("15 a rest with beats and a breath", Choirs.read(x, "-9."), 9);
         DUE.is("15 its breath", x.sound(8), 10);
+        DUE.is("15 a rest's breath counts", x.count(4), 1);
+        DUE.is("15 one beat", Choirs.read(x, "f."), 1);
+        DUE.is("15 a breath behind the first", x.count(4), 1);
     }
 
     private static void faults() {
@@ -168,6 +172,7 @@ public final class PieceTest {
         DUE.is("20 above it", x.sea(1, 2001), ChoirWires.NONE);
         DUE.is("20 cut it were just 2000", x.sea(2, 4001), ChoirWires.NONE);
         DUE.is("20 pace 1", x.sea(63, 63), 1);
+        DUE.is("20 one as one", x.sea(1, 1), 1);
         DUE.is("20 fewer blinks than beats", x.sea(63, 62), ChoirWires.NONE);
         DUE.is("20 d 0", x.sea(0, 100), ChoirWires.BAD);
         DUE.is("20 d 64", x.sea(64, 64), ChoirWires.BAD);

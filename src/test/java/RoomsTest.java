@@ -146,7 +146,9 @@ public final class RoomsTest {
         x.item(0, 1, 0, 1);
         DUE.is("5 its own is 1", x.wires(0, 0, 1, 0), ChoirWires.NOT);
         DUE.is("5 what was there is", x.wire(0, 1, 33), 33);
-        DUE.is("5 from item 1 on", x.wires(0, 0, 1, 1), 0);
+        x.item(0, 1, 0, 0);
+        x.item(0, 1, 3, 401);
+        DUE.is("5 an item behind the last does not count", x.wires(0, 0, 1, 0), 0);
         x.sheet(0, 1, 2);
         DUE.is("5 a row too short", x.wires(0, 0, 1, 0), ChoirWires.INDEX);
         x.sheet(0, 0, 3);
@@ -177,6 +179,8 @@ public final class RoomsTest {
         DUE.is("7 a guessing one that hears none", x.time(3, 2), 1020);
         x.set(0, 1, 99);
         DUE.is("7 later", x.time(0, 2), 1198);
+        x.set(0, 2, 100);
+        DUE.is("7 pulled by nobody", x.time(0, 2), 1198);
     }
 
     private static void timesByWires() {
@@ -257,6 +261,7 @@ public final class RoomsTest {
         DUE.is("9 v -1", x.slows(1, -1), ChoirWires.BAD);
         DUE.is("9 v 99999", x.slows(1, 99999), ChoirWires.NONE);
         DUE.is("9 v 100000", x.slows(1, 100000), ChoirWires.BAD);
+        DUE.is("9 one alone, the first", Choirs.of(1).slows(1, 499), 1);
         ChoirWires oneWay = Choirs.of(0, 1);
         DUE.is("9 without wires, as they are", oneWay.slows(1, 504), 1);
         DUE.is("9 without wires, never", oneWay.slows(1, 505), ChoirWires.NONE);
@@ -294,6 +299,12 @@ public final class RoomsTest {
         DUE.is("10 beat 41", x.apart(41), ChoirWires.BAD);
         x.set(1, 0, 5);
         DUE.is("10 a cut one does not count", x.apart(40), 0);
+        ChoirWires first = Choirs.of(0, 1, 1);
+        first.wire(1, 0, 400);
+        DUE.is("10 the first one, by its wire", first.apart(1), 210);
+        first.set(0, 0, 2);
+        first.set(0, 3, 5);
+        DUE.is("10 the first one, early", first.apart(1), 5);
     }
 
     private static void counts() {

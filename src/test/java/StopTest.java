@@ -61,6 +61,12 @@ public final class StopTest {
         DUE.is("22 and goes then", x.goes(1, 3), 0);
         x.lose(2, 0, 1, false);
         DUE.is("23 round 2 came after all", x.knows(1, 2), 3);
+        ChoirWires twice = Choirs.of(0, 0, 0, 0);
+        twice.wire(0, 1, 1);
+        twice.wire(0, 2, 1);
+        twice.wire(1, 3, 1);
+        twice.wire(2, 3, 1);
+        DUE.is("23 told by two at once", twice.knows(3, 2), 15);
     }
 
     private static void cutRooms() {
@@ -94,6 +100,8 @@ public final class StopTest {
         DUE.is("22 far behind the end", x.goes(0, 0), 6);
         Choirs.read(x, "ab.");
         DUE.is("22 a breath at the end", x.goes(0, 0), 2);
+        Choirs.read(x, "a.b");
+        DUE.is("22 a breath behind the first", x.goes(0, 0), 1);
         Choirs.read(x, "ab");
         DUE.is("22 no breath", x.goes(0, 0), 0);
         Choirs.read(x, "a9a9a9a9a9a9a9.a.");
