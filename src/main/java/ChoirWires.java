@@ -1084,7 +1084,7 @@ public final class ChoirWires {
         }
 
         boolean holds(int i, int n) {
-            return i >= 0 && n >= 0 && n <= length && i <= length - n;
+            return i >= 0 && n >= 0 && i <= length - n;
         }
 
         int renew(int newLane, int n) {

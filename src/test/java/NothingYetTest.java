@@ -7,6 +7,7 @@ public final class NothingYetTest {
     public static void main(String[] args) {
         noRooms();
         noWires();
+        noLostWords();
         nobodySings();
         allAreCut();
         noPiece();
@@ -65,6 +66,17 @@ public final class NothingYetTest {
         DUE.is("23 nobody tells", x.knows(3, 7), 8);
         DUE.is("22 all wait", x.goes(3, 7), NONE);
         DUE.is("29 no pairs", x.net(), NONE);
+    }
+
+    private static void noLostWords() {
+        ChoirWires x = Choirs.of(0, 0, 0, 0, 0, 0, 0, 0);
+        for (int round = 1; round <= 7; round++) {
+            for (int from = 0; from < 8; from++) {
+                for (int to = 0; to < 8; to++) {
+                    DUE.is("21 none at first, round " + round, x.lose(round, from, to, false), from == to ? BAD : 0);
+                }
+            }
+        }
     }
 
     private static void nobodySings() {

@@ -7,6 +7,7 @@ public final class StopTest {
         chain();
         lostWords();
         cutRooms();
+        cutInTheMiddle();
         breaths();
         refused();
         DUE.end();
@@ -84,6 +85,24 @@ public final class StopTest {
         DUE.is("22 one alone goes at once", x.goes(2, 0), 3);
         x.set(2, 0, 5);
         DUE.is("22 all are cut", x.goes(2, 0), ChoirWires.NONE);
+    }
+
+    /** It takes no words, hands none on and is waited for by nobody. */
+    private static void cutInTheMiddle() {
+        ChoirWires x = Choirs.of(0, 4, 0);
+        x.wire(0, 1, 1);
+        x.wire(1, 2, 1);
+        DUE.is("23 by the middle", x.knows(2, 2), 7);
+        x.set(1, 0, 5);
+        DUE.is("23 not, if it is cut", x.knows(2, 7), 4);
+        DUE.is("23 it takes none", x.knows(1, 7), 2);
+        DUE.is("22 the last one waits for the first", x.goes(2, 7), ChoirWires.NONE);
+        x.wire(0, 2, 1);
+        DUE.is("22 but not for the middle", x.goes(2, 1), 0);
+        x.wire(0, 2, 0);
+        x.set(0, 0, 5);
+        DUE.is("23 a cut one tells nothing", x.knows(2, 7), 4);
+        DUE.is("22 it is the only one then", x.goes(2, 0), 0);
     }
 
     private static void breaths() {
