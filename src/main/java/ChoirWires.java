@@ -702,12 +702,14 @@ public final class ChoirWires {
         }
 
         int spread(Rooms rooms) {
-            int least = Integer.MAX_VALUE;
-            int greatest = Integer.MIN_VALUE;
+            boolean any = false;
+            int least = 0;
+            int greatest = 0;
             for (int room = 0; room < rooms.number; room++) {
                 if (rooms.sings(room)) {
-                    least = Math.min(least, times[room]);
-                    greatest = Math.max(greatest, times[room]);
+                    least = any ? Math.min(least, times[room]) : times[room];
+                    greatest = any ? Math.max(greatest, times[room]) : times[room];
+                    any = true;
                 }
             }
             return greatest - least;

@@ -124,6 +124,13 @@ public final class EndsTest {
             x.set(0, 3, 0);
             DUE.is("7 not early", x.time(0, 0), 0);
         }
+        ChoirWires leaders = Choirs.of(2, 4, 2);
+        leaders.set(0, 3, 999);
+        DUE.is("10 one at 0, one below", leaders.apart(0), 999);
+        leaders.set(2, 3, 990);
+        DUE.is("10 all below 0", leaders.apart(0), 9);
+        leaders.pace(1);
+        DUE.is("10 all below 0 to the last", leaders.apart(40), 9);
     }
 
     private static void guess() {

@@ -53,6 +53,17 @@ public final class FaceTest {
             DUE.holds("rule 1, a private " + m.getName(), !hidden || !names.contains(m.getName()));
             DUE.holds("rule 11, parameters of " + m.getName(), m.getParameterCount() <= 7);
         }
+        for (Class<?> c : face.getDeclaredClasses()) {
+            methodsInside(c, names);
+        }
+    }
+
+    private static void methodsInside(Class<?> c, Set<String> namesOfFace) {
+        for (Method m : c.getDeclaredMethods()) {
+            String name = c.getSimpleName() + "." + m.getName();
+            DUE.holds("rule 1, name of " + name, !namesOfFace.contains(m.getName()));
+            DUE.holds("rule 11, parameters of " + name, m.getParameterCount() <= 7);
+        }
     }
 
     private static String types(Method m) {
